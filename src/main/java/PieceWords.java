@@ -272,7 +272,8 @@ public final class PieceWords {
             return refuse(NO);
         }
         made.copy(row[w]);
-        return madeVanishes() ? 1 : 0;
+        shortening.doAll(made);
+        return made.count == 0 ? 1 : 0;
     }
 
     public int same(int a, int b) {
@@ -287,7 +288,8 @@ public final class PieceWords {
         if (made.count > WORD_ROOM) {
             return refuse(FULL);
         }
-        return madeVanishes() ? 1 : 0;
+        shortening.doAll(made);
+        return made.count == 0 ? 1 : 0;
     }
 
     public int order(int a) {
@@ -302,7 +304,8 @@ public final class PieceWords {
             if (made.count > WORD_ROOM) {
                 return NONE;
             }
-            if (madeVanishes()) {
+            shortening.doAll(made);
+            if (made.count == 0) {
                 return n;
             }
         }
@@ -346,7 +349,9 @@ public final class PieceWords {
             for (int k = 0; k < n; k++) {
                 made.put((code >> (3 * k)) & 7);
             }
-            if (made.count == n && madeVanishes()) {
+            boolean reduced = made.count == n;
+            shortening.doAll(made);
+            if (reduced && made.count == 0) {
                 found++;
             }
         }
@@ -452,11 +457,6 @@ public final class PieceWords {
         }
     }
 
-    private boolean madeVanishes() {
-        shortening.doAll(made);
-        return made.count == 0;
-    }
-
     /** Whether a z of that many LETTERS takes TURN t of the one ring to the other. */
     private boolean someBeginningTurns(int t, int z) {
         if (z == 0) {
@@ -480,7 +480,8 @@ public final class PieceWords {
         for (int k = z - 1; k >= 0; k--) {
             made.put(opposite(members.letterOf(m, k)));
         }
-        return madeVanishes();
+        shortening.doAll(made);
+        return made.count == 0;
     }
 
     private void putLoop(int m, int l) {
@@ -566,8 +567,11 @@ public final class PieceWords {
         }
 
         void copy(Row from) {
-            wipe();
-            putPart(from, 0, from.count);
+            int many = Math.min(from.count, Math.min(from.letters.length, letters.length));
+            for (int k = 0; k < many; k++) {
+                letters[k] = from.letters[k];
+            }
+            count = many;
         }
 
         void putRow(Row from) {
@@ -601,6 +605,19 @@ public final class PieceWords {
                 letters[k] = letters[k + ends];
             }
             count = left;
+        }
+
+        /** How many LETTERS from place i on are as the other row begins. */
+        int likeFrom(int i, Row other) {
+            if (i < 0) {
+                return 0;
+            }
+            int most = Math.min(count - i, other.count);
+            int l = 0;
+            while (l < most && at(i + l) == other.at(l)) {
+                l++;
+            }
+            return l;
         }
 
         /** How often LETTER l is here, its OPPOSITE counting less. */
@@ -834,6 +851,7 @@ public final class PieceWords {
         private final Row turning = new Row(RELATOR_ROOM);
         private final Row[] member;
         private int count;
+        private int shortest = RELATOR_ROOM;
         /** By MEMBER, a bit for each RELATOR that it is a TURN of (or of its INVERSE). */
         private final int[] owners = new int[MEMBER_COUNT];
         /** By MEMBER, how long it begins like one ahead of it, at most. */
@@ -857,6 +875,7 @@ public final class PieceWords {
         void become(Reader from) {
             relatorCount = Math.min(from.count, RELATOR_COUNT);
             count = 0;
+            shortest = RELATOR_ROOM;
             for (int l = 0; l < ALL_LETTERS; l++) {
                 starterCount[l] = 0;
             }
@@ -877,23 +896,23 @@ public final class PieceWords {
                 Row next = member[count];
                 next.wipe();
                 next.putTurn(of, t);
-                int earlier = likeNext();
+                int earlier = earlierLike(next);
                 if (earlier != NONE) {
                     owners[earlier] |= 1 << r;
                 } else {
                     owners[count] = 1 << r;
                     ownFirst[r]++;
                     listByFirstLetter(next.at(0));
+                    shortest = Math.min(shortest, next.count);
                     count++;
                 }
             }
         }
 
-        /** The MEMBER that is like the one being added, or NONE. */
-        private int likeNext() {
-            Row next = member[count];
-            for (int m = 0; m < count; m++) {
-                if (member[m].count == next.count && sharedStart(m, count) == next.count) {
+        /** The MEMBER that is like the one that would be next, or NONE. */
+        private int earlierLike(Row next) {
+            for (int m = 0; m < count && m < MEMBER_COUNT; m++) {
+                if (member[m].count == next.count && matchAt(next, 0, m) == next.count) {
                     return m;
                 }
             }
@@ -939,15 +958,12 @@ public final class PieceWords {
         }
 
         int sharedStart(int m, int o) {
-            if (m < 0 || m >= MEMBER_COUNT || o < 0 || o >= MEMBER_COUNT) {
-                return 0;
-            }
-            int most = Math.min(member[m].count, member[o].count);
-            int l = 0;
-            while (l < most && member[m].at(l) == member[o].at(l)) {
-                l++;
-            }
-            return l;
+            return has(m) && has(o) ? member[m].likeFrom(0, member[o]) : 0;
+        }
+
+        /** How many LETTERS of a word from place i on are as MEMBER m begins. */
+        int matchAt(Row word, int i, int m) {
+            return has(m) ? word.likeFrom(i, member[m]) : 0;
         }
 
         /** Whether MEMBER m begins with that many LETTERS as none ahead of it does. */
@@ -1026,6 +1042,7 @@ public final class PieceWords {
         private int place;
         private int member;
         private int matched;
+        private int saved;
 
         Shortening(Members of) {
             members = of;
@@ -1034,17 +1051,17 @@ public final class PieceWords {
         /** How many CUTS there are; the one that is taken is left in the fields. */
         int seek(Row word) {
             int found = 0;
-            for (int i = 0; i < word.count; i++) {
+            // nearer to the end than half the shortest MEMBER no CUT can begin
+            for (int i = 0; i < word.count && 2 * (word.count - i) > members.shortest; i++) {
                 int first = word.at(i);
                 int many = members.startersWith(first);
                 for (int k = 0; k < many; k++) {
                     int m = members.starter(first, k);
-                    int l = matchAt(word, i, m);
-                    if (2 * l > members.sizeOf(m)) {
-                        if (found == 0 || isBetter(i, m, l)) {
-                            place = i;
-                            member = m;
-                            matched = l;
+                    int l = members.matchAt(word, i, m);
+                    int saves = 2 * l - members.sizeOf(m);
+                    if (saves > 0) {
+                        if (found == 0 || isBetter(i, l, saves)) {
+                            take(i, m, l);
                         }
                         found++;
                     }
@@ -1053,24 +1070,14 @@ public final class PieceWords {
             return found;
         }
 
-        private int matchAt(Row word, int i, int m) {
-            int most = Math.min(word.count - i, members.sizeOf(m));
-            int l = 0;
-            while (l < most && word.at(i + l) == members.letterOf(m, l)) {
-                l++;
-            }
-            return l;
-        }
-
-        private boolean isBetter(int i, int m, int l) {
-            int more = saving(m, l) - saving(member, matched);
+        private boolean isBetter(int i, int l, int saves) {
             switch (kind) {
                 case LAST:
                     return i > place || l > matched;
                 case GREEDY:
-                    return more > 0;
+                    return saves > saved;
                 case SHY:
-                    return more < 0;
+                    return saves < saved;
                 case LONG:
                     return l > matched;
                 default:
@@ -1078,8 +1085,11 @@ public final class PieceWords {
             }
         }
 
-        private int saving(int m, int l) {
-            return 2 * l - members.sizeOf(m);
+        private void take(int i, int m, int l) {
+            place = i;
+            member = m;
+            matched = l;
+            saved = 2 * l - members.sizeOf(m);
         }
 
         /** Does the CUT that was taken last. */
