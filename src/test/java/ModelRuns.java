@@ -78,6 +78,14 @@ public final class ModelRuns {
             out.add(random.nextBoolean() ? call(2, 0, 0, 0) : call(3, small(random, 7) - 1, 0, 0));
             return;
         }
+        if (what < 9) {
+            followTrail(random, out);
+            return;
+        }
+        if (what < 12) {
+            turnAbout(random, out);
+            return;
+        }
         int f = random.nextInt(NAMES.length);
         if (f == 1 || f == 0 && random.nextInt(4) != 0) {
             f = 29;
@@ -89,6 +97,45 @@ public final class ModelRuns {
         if (f >= 13 && f <= 21 || f == 28 || f == 29) {
             out.add(call(31, 0, 0, 0));
         }
+    }
+
+    /** A word with many CUTS, and the trail of each chooser on it. */
+    private static void followTrail(Random r, List<int[]> out) {
+        out.add(named("loops", r.nextInt(1000000), 1 + r.nextInt(5), 0));
+        out.add(named("turn", 0, r.nextInt(6), 0));
+        for (int kind = 0; kind < 5; kind++) {
+            out.add(named("chooser", kind, 0, 0));
+            out.add(named("cuts", 0, 0, 0));
+            for (int what = 0; what < 4; what++) {
+                out.add(named("trail", 0, r.nextInt(4), what));
+            }
+            out.add(named("inverse", 0, 1, 0));
+            out.add(named("cut", 1, 0, 0));
+            out.add(named("shorten", 1, 0, 0));
+            out.add(named("digest", 0, 0, 0));
+        }
+    }
+
+    /** Two words of which the one is made of the other by what should not matter, but for chance. */
+    private static void turnAbout(Random r, List<int[]> out) {
+        out.add(named("draw", r.nextInt(1000000), 1 + r.nextInt(8), 2));
+        out.add(named("loops", r.nextInt(1000000), 1 + r.nextInt(2), 3));
+        out.add(named("times", 2, 3, 4));
+        out.add(named("shorten", 4, 0, 0));
+        out.add(named("ring", 4, 4, 0));
+        out.add(named("same", 2, 4, 0));
+        out.add(named("turned", 2, 4, 0));
+        out.add(named("turn", 4, r.nextInt(4), 4));
+        out.add(named("loops", r.nextInt(1000000), 1, 3));
+        out.add(named("times", 4, 3, 4));
+        out.add(named("shorten", 4, 0, 0));
+        out.add(named("turned", 2, 4, 0));
+        out.add(named("turned", 4, 2, 0));
+        out.add(named("order", 2, 0, 0));
+    }
+
+    private static int[] named(String name, int a, int b, int c) {
+        return call(List.of(NAMES).indexOf(name), a, b, c);
     }
 
     private static int[] arguments(int f, Random r) {
