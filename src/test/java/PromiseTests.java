@@ -192,8 +192,9 @@ public final class PromiseTests {
     private static void faultsOfBytes() {
         String[] wrongTexts = {"", " ", "a", "a ", "a;b", ";", " ;", "a;;", "a 2;", "2;", "a0;", "a12;", "(;", "(a;", "a);",
             "();", "( );", "(2);", "(a)2 2;", "(a) 2;", "((((a))));(((((a)))));", "e;", "a\t;", "a;b;c", "a(b", "a(b)",
-            "(a)(b)((c)((d)(a(b))))((((a(b)))));", "a;2", "E;", "@;", "a:", "((a)b))c;", "d9;D9;`", "a;)"};
-        int[] faults = {0, 1, 1, 2, 3, 0, 1, 2, 2, 0, 1, 2, 1, 2, 1, 1, 2, 1, 5, 4, 14, 0, 1, 5, 3, 4, 27, 2, 0, 0, 1, 6, 6, 2};
+            "(a)(b)((c)((d)(a(b))))((((a(b)))));", "a;2", "E;", "@;", "a:", "((a)b))c;", "d9;D9;`", "a;)",
+            "a();", "a(b)();"};
+        int[] faults = {0, 1, 1, 2, 3, 0, 1, 2, 2, 0, 1, 2, 1, 2, 1, 1, 2, 1, 5, 4, 14, 0, 1, 5, 3, 4, 27, 2, 0, 0, 1, 6, 6, 2, 2, 5};
         for (int k = 0; k < wrongTexts.length; k++) {
             PieceWords x = fresh("promises 4 and 5, faults of bytes");
             due("words of '" + wrongTexts[k] + "'", words(x, 0, wrongTexts[k]), -10 - faults[k]);
@@ -202,6 +203,12 @@ public final class PromiseTests {
             dueRefusals(x, 0, 0, 0);
         }
         PieceWords x = fresh("promises 4 and 5, the order of faults");
+        due("an early end", words(x, 0, "a"), -11);
+        due("is not remembered", words(x, 0, ";"), -10);
+        due("an early end", words(x, 0, "(a"), -12);
+        due("is not remembered", words(x, 0, "2;"), -10);
+        due("an early end", words(x, 0, "(a)"), -13);
+        due("is not remembered", words(x, 0, ")2;"), -10);
         due("byte faults come ahead of long words", words(x, 0, "a9a9a9a9a9a9a9;b;e"), -27);
         dueRefusals(x, 0, 0, 0);
     }
@@ -610,6 +617,9 @@ public final class PromiseTests {
         dueText("SHY takes the first of equals", afterCut("ab;", "abcab;", 3), "cab");
         dueText("LONG", afterCut("ab;cdcdcDa;", "abDcdcdc;", 4), "abDAd");
         dueText("LONG takes the first of equals", afterCut("ab;", "abcab;", 4), "cab");
+        for (int kind = 0; kind < 5; kind++) {
+            dueText("the first of equal MEMBERS by " + kind, afterCut("abc;abd;", "ab;", kind), "C");
+        }
         // cdcd at 0 saves 4 (dcd at 1: 2), ab at 5 saves 1
         String[] one = {"babd", "cdcdbCd", "babd", "cdcdbCd", "babd"};
         // ab at 0 saves 2, cdcd at 3 is longer, but saves 1
@@ -771,6 +781,7 @@ public final class PromiseTests {
         due("the other ring of 9", x.turned(2, 3), -3);
         words(x, 3, "ba8B;");
         due("a ring of 8", x.turned(3, 2), -1);
+        due("the other ring of 8", x.turned(2, 3), -1);
         relators(x, "acBC;");
         due("not GOOD by 6", x.turned(0, 0), -3);
         relators(x, "abABcdCD;");
@@ -799,6 +810,9 @@ public final class PromiseTests {
             x.chooser(kind);
             due("by any chooser", x.turned(0, 1), 1);
         }
+        relators(x, "a9b5;");
+        relators(x, "cbADCBad;");
+        due("by the first MEMBER's beginning, other RELATORS gone", x.turned(0, 1), 1);
         relators(x, "BDaDDcdbdaacDC;");
         due("it is GOOD by 6", x.good(6), 1);
         words(x, 0, "BDaDD;CAADB;DaDDB;");
@@ -884,13 +898,22 @@ public final class PromiseTests {
         words(x, 1, "abc;");
         due("too long", x.loops(0, 6, 1), -4);
         dueText("WORD 1", show(x, 1), "abc");
+        due("just 60", x.loops(4, 4, 1), 60);
+        due("then more", x.loops(4, 5, 1), -4);
+        due("still few", x.loops(391, 3, 1), 46);
+        due("more than 60", x.loops(391, 4, 1), -4);
+        due("as soon as that, though 46 would come of it", x.loops(391, 5, 1), -4);
+        due("the last SEED", x.loops(999999, 0, 0), 0);
         due("seed", x.loops(-1, 1, 0), -2);
         due("seed", x.loops(1000000, 1, 0), -2);
         due("n", x.loops(0, -1, 0), -2);
         due("n", x.loops(0, 7, 0), -2);
         due("to", x.loops(0, 1, 6), -2);
         due("to", x.loops(0, 1, -1), -2);
-        dueRefusals(x, 7, 1, 1);
+        dueRefusals(x, 7, 1, 4);
+        relators(x, "a9a5;");
+        due("just 60", x.loops(9, 4, 1), 60);
+        due("then fewer", x.loops(9, 5, 1), 46);
     }
 
     private static void told() {
