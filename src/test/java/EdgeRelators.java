@@ -10,6 +10,7 @@ public final class EdgeRelators {
         piecesOfTheShorter();
         noPiece();
         piecesOfLikeRelators();
+        relatorsOfBeforeAreGone();
         goodByEqualIsNot();
         goodNumbers();
         goodWithoutRelators();
@@ -136,6 +137,30 @@ public final class EdgeRelators {
         duePieces("abc;cab;CBA;", 0, 0, 0);
         duePieces("abc;ad;bca;", 1, 1, 1);
         duePieces("aab;baa;", 1, 1);
+    }
+
+    private static void relatorsOfBeforeAreGone() {
+        Edge.sentence("promise 4", "RELATORS become the WORDS of THE TEXT: nothing of earlier ones counts");
+        PieceWords x = Edge.make("ab2ab3ab4;a;ba;", "abcd;b4;a4;");
+        Edge.due("their PIECE", x.relator(0, 1), 6);
+        Edge.due("their CUTS", x.cuts(1), 0);
+        Edge.due("their CUTS", x.cuts(2), 4);
+        Edge.relators(x, "cdcd;a2;");
+        Edge.due("relator(0, 1)", x.relator(0, 1), 0);
+        Edge.due("relator(0, 2)", x.relator(0, 2), 4);
+        Edge.due("relator(1, 1)", x.relator(1, 1), 0);
+        Edge.due("relator(1, 2)", x.relator(1, 2), 2);
+        Edge.due("relator(2, 0)", x.relator(2, 0), Edge.BAD);
+        Edge.due("told(5)", x.told(5), 6);
+        Edge.due("GOOD again", x.good(9), 1);
+        Edge.due("cuts(0)", x.cuts(0), 0);
+        Edge.due("cuts(1)", x.cuts(1), 0);
+        Edge.due("cuts(2)", x.cuts(2), 3);
+        Edge.due("rank(7)", x.rank(7), 2);
+        Edge.relators(x, "abcd;");
+        Edge.due("longer ones than before", x.cuts(0), 2);
+        Edge.due("and fewer", x.cuts(2), 0);
+        Edge.due("rank(7)", x.rank(7), 1);
     }
 
     private static void goodByEqualIsNot() {
@@ -280,6 +305,10 @@ public final class EdgeRelators {
         dueRanks("a;b;c;", 3, 3, 3, 3);
         dueRanks("b;c;d;", 3, 3, 3, 3);
         dueRanks("a;a;a;", 1, 1, 1, 1);
+        dueRanks("b;a;", 2, 2, 2, 2);
+        dueRanks("c;b;a;", 3, 3, 3, 3);
+        dueRanks("b2;ab;", 1, 2, 2, 2);
+        dueRanks("d;c;a;", 3, 3, 3, 3);
         dueRanks("a2;", 0, 1, 1, 1);
         dueRanks("a9a5;", 0, 1, 1, 0);
         dueRanks("a9;", 1, 0, 1, 1);

@@ -26,6 +26,7 @@ public final class EdgeTexts {
         relatorsFaultLeavesAll();
         wordsFrom();
         wordsFaultLeavesAll();
+        faultsAreForgotten();
         chooserKinds();
         Edge.end();
     }
@@ -424,6 +425,26 @@ public final class EdgeTexts {
             Edge.changesNothing(() -> withText("abc;d2;", "ab;c;d;A;B2;C;", text), "words(3) of '" + text + "'",
                 y -> y.words(3), -10 - faults[k]);
         }
+    }
+
+    /** Behind each TEXT that can not be read one that begins where the other broke off: it is read from its first byte on. */
+    private static void faultsAreForgotten() {
+        Edge.sentence("terms 2", "FAULT: the place of the first byte that can not stand there, whatever THE TEXT was ahead of it");
+        String[] broken = {"a", "a2", "(", "(a", "(a)", "((((a", "a;b", "a e", "a)", "(a9)9;"};
+        String[] next = {";", "2;", ")", "a)", ") ;", "((((a))));", "a;", "(a)2;"};
+        int[] want = {-10, -10, -10, -11, -10, 1, 1, 1};
+        for (String text : broken) {
+            for (int k = 0; k < next.length; k++) {
+                PieceWords x = new PieceWords();
+                Edge.words(x, 0, text);
+                Edge.due("words(0) of '" + next[k] + "' behind '" + text + "'", Edge.words(x, 0, next[k]), want[k]);
+                Edge.relators(x, text);
+                Edge.due("relators() of '" + next[k] + "' behind '" + text + "'", Edge.relators(x, next[k]), want[k]);
+            }
+        }
+        PieceWords x = Edge.make("", "a9;");
+        Edge.due("the WORD ahead is gone", Edge.words(x, 0, "(bc)2;"), 1);
+        Edge.dueText("WORD 0", Edge.word(x, 0), "bcbc");
     }
 
     private static void chooserKinds() {

@@ -24,6 +24,9 @@ public final class SourceRules {
         forbiddenWords(code);
         methods(code);
         face();
+        signatures();
+        fields();
+        classesInside();
         System.out.println(wrong == 0 ? "the source keeps the rules" : wrong + " places break a rule");
         if (wrong != 0) {
             System.exit(1);
@@ -103,6 +106,69 @@ public final class SourceRules {
         }
         for (String missing : face) {
             say(0, "missing of the face: " + missing);
+        }
+    }
+
+    /** Each method of the face takes as many ints as the document says and answers an int (digest a long). */
+    private static void signatures() {
+        String[] takes = {"clear relators digest", "type words chooser good rank length cuts cut shorten nothing order "
+            + "nothings told", "relator member alike letter adds inverse ring sum same turned", "times power turn trail draw loops"};
+        for (int many = 0; many < takes.length; many++) {
+            Class<?>[] parameters = new Class<?>[many];
+            java.util.Arrays.fill(parameters, int.class);
+            for (String name : takes[many].split(" ")) {
+                signature(name, parameters);
+            }
+        }
+        java.lang.reflect.Constructor<?>[] made = PieceWords.class.getDeclaredConstructors();
+        if (made.length != 1 || made[0].getParameterCount() != 0 || !java.lang.reflect.Modifier.isPublic(made[0].getModifiers())) {
+            say(0, "the constructor is not that of the face");
+        }
+    }
+
+    private static void signature(String name, Class<?>[] parameters) {
+        try {
+            Class<?> answers = PieceWords.class.getMethod(name, parameters).getReturnType();
+            if (answers != (name.equals("digest") ? long.class : int.class)) {
+                say(0, name + " answers " + answers);
+            }
+        } catch (NoSuchMethodException e) {
+            say(0, name + " does not take " + parameters.length + " ints");
+        }
+    }
+
+    private static void fields() {
+        Set<String> constants = new TreeSet<>(List.of("NONE", "BAD", "NO", "FULL"));
+        for (java.lang.reflect.Field f : PieceWords.class.getDeclaredFields()) {
+            int is = f.getModifiers();
+            boolean isConstant = java.lang.reflect.Modifier.isPublic(is) && java.lang.reflect.Modifier.isStatic(is)
+                && java.lang.reflect.Modifier.isFinal(is) && f.getType() == int.class && constants.remove(f.getName());
+            if (!isConstant && !java.lang.reflect.Modifier.isPrivate(is)) {
+                say(0, "not of the face: " + f.getName());
+            }
+            if (java.lang.reflect.Modifier.isStatic(is) && !java.lang.reflect.Modifier.isFinal(is)) {
+                say(0, "a static field that is not final: " + f.getName());
+            }
+        }
+        for (String missing : constants) {
+            say(0, "missing of the face: " + missing);
+        }
+    }
+
+    private static void classesInside() {
+        Class<?>[] inside = PieceWords.class.getDeclaredClasses();
+        if (inside.length > 11) {
+            say(0, "many classes: " + inside.length);
+        }
+        for (Class<?> c : inside) {
+            int is = c.getModifiers();
+            if (!java.lang.reflect.Modifier.isStatic(is) || java.lang.reflect.Modifier.isPublic(is)
+                    || java.lang.reflect.Modifier.isProtected(is)) {
+                say(0, "not static, or seen from outside: " + c.getName());
+            }
+            if (c.getDeclaredFields().length > 20) {
+                say(0, "many fields: " + c.getName());
+            }
         }
     }
 }
