@@ -257,6 +257,10 @@ public final class EdgeRelators {
         x = Edge.make("a9a5;", "");
         Edge.due("the 14th", x.member(1, 13), 4);
         Edge.due("the 15th", x.member(1, 14), Edge.NONE);
+        Edge.relators(x, "ab;");
+        for (int k = 2; k < 15; k++) {
+            Edge.due("of 14 that have gone, the " + k, x.member(0, k) + x.member(1, k), 2 * Edge.NONE);
+        }
     }
 
     private static void alikeNumbers() {

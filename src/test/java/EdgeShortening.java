@@ -462,6 +462,9 @@ public final class EdgeShortening {
     private static void turnedByBeginnings() {
         Edge.sentence("promise 28", "some z (no LETTERS, then beginnings of 1, then of 2 LETTERS of MEMBERS) .. of the first such t, then z");
         dueTurned("", "ab;", "ba;", 100);
+        dueTurned("a;", "D;", "bB;", Edge.NONE);
+        dueTurned("a;b;c;", "D;", "bB;", Edge.NONE);
+        dueTurned("a;", "bcD;", "bc;", Edge.NONE);
         dueTurned("c7;", "ab;", "ba;", 100);
         dueTurned("a7;", "ab;", "ba;", 1);
         dueTurned("A7;", "ab;", "ba;", 1);
@@ -501,6 +504,7 @@ public final class EdgeShortening {
         Edge.sentence("promise 29", "How many WORDS of n LETTERS (1 .. 4) that are REDUCED would be SHORTENED to nothing.");
         dueNothings("", 0, 0, 0, 0);
         dueNothings("a;", 2, 2, 2 + 12, 2 + 12 + 24 + 24);
+        dueNothings("d;", 2, 2, 2 + 12, 2 + 12 + 24 + 24);
         dueNothings("a;b;c;", 6, 6 * 5, 6 * 5 * 5 + 12, 6 * 5 * 5 * 5 + 60 + 72 + 72);
         dueNothings("a2;", 0, 2, 0, 2 + 12);
         dueNothings("a3;", 0, 0, 2, 0);

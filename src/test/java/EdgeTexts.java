@@ -179,6 +179,9 @@ public final class EdgeTexts {
         Edge.dueText("within others", Edge.word(x, 2), "ababcababc");
         Edge.dueText("once", Edge.word(x, 3), "aB");
         Edge.dueText("ahead of being REDUCED", Edge.word(x, 4), "Ab");
+        x = Edge.make("", "b;a((((ab)2c)2d)2a)2b;");
+        String deep = times(times(times(times("ab", 2) + "c", 2) + "d", 2) + "a", 2);
+        Edge.dueText("4 deep", Edge.word(x, 1), "a" + deep + "b");
     }
 
     private static void brackets() {

@@ -158,6 +158,10 @@ public final class EdgeWords {
         Edge.dueRefusals(x, 0, 0, 0);
         x.adds(0, 5);
         Edge.due("what has gone", x.letter(0, 1), Edge.NONE);
+        x.times(0, 5, 1);
+        for (int k = x.length(1); k < 61; k++) {
+            Edge.due("of 60 that have gone, the " + k, x.letter(1, k), Edge.NONE);
+        }
         for (int k : new int[] {-1, -2, Edge.LOW}) {
             Edge.refused(EdgeWords::some, "letter(0, " + k + ")", y -> y.letter(0, k), Edge.BAD);
             Edge.refused(EdgeWords::some, "letter(5, " + k + ")", y -> y.letter(5, k), Edge.BAD);
@@ -296,6 +300,12 @@ public final class EdgeWords {
         Edge.due("52 ends and -9", x.power(0, -9, 5), Edge.FULL);
         Edge.due("42 ends and 18", x.power(1, 9, 5), 60);
         dueWord(x, 5, "b".repeat(21) + "a".repeat(18) + "B".repeat(21));
+        // none of their LETTERS go, though those that were left out above 60 would let others go
+        x = Edge.make("", "(ba9a2BA7)3;(a9a4BA9A3B)2;(a9a5cA9A3C)2;");
+        for (int w = 0; w < 3; w++) {
+            Edge.due("WORD " + w + " twice", x.power(w, 2, 5), Edge.FULL);
+            Edge.due("WORD " + w + " behind itself", x.times(w, w, 5), Edge.FULL);
+        }
         Edge.refused(EdgeWords::some, "power(2, 2, 0)", y -> y.power(2, 2, 0), Edge.FULL);
         Edge.refused(EdgeWords::some, "power(2, -2, 2)", y -> y.power(2, -2, 2), Edge.FULL);
     }
